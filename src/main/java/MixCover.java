@@ -575,11 +575,10 @@ public final class MixCover {
             return rest == 0 ? row : NO_ROW;
         }
 
-        int digitsOf(int row) {
+        int digitsOf(int wholeRow) {
             int digits = 0;
             for (int column = 0; column < columns; column++) {
-                int level = levelIn(row, column);
-                digits = digits * 10 + (level == NONE ? FREE_DIGIT : level);
+                digits = digits * 10 + levelIn(wholeRow, column);
             }
             return digits;
         }

@@ -14,6 +14,7 @@ public final class BlamePromises {
         undoEachAct();
         notActs();
         keepAndBack();
+        backToPlansThatAreAlike();
         count();
         Check.endOf("BlamePromises");
     }
@@ -246,6 +247,34 @@ public final class BlamePromises {
         Check.due("x of the other", cover.count(11), 8);
         Check.due("back to the first", cover.back(0), 3);
         Check.due("back to it again", cover.back(0), 3);
+    }
+
+    private static void backToPlansThatAreAlike() {
+        String[] plans = {"levels 2 3 2;never 0.0&1.0", "levels 2 3 2;never 0.1&1.0", "levels 2 3 2;never 0.0&1.1&2.0",
+            "levels 2 3 2", "levels 2 3 2;never 0.0", "levels 3 2 2;never 0.0&1.0", "levels 2 3 2;never 0.0&1.0;strength 1",
+            "levels 2 3 2;never 0.0&1.0;strength 3", "levels 2 3;never 0.0&1.0",
+            "levels 2 3 2;never 0.0&1.0;never 1.0&2.0", "levels 2 3 2;never 0.0&1.0;never 1.1&2.0"};
+        for (String from : plans) {
+            for (String to : plans) {
+                MixCover fresh = Check.planned(to);
+                MixCover cover = Check.planned(to);
+                cover.keep(0);
+                Check.plan(cover, from);
+                cover.back(0);
+                String call = "from \"" + from + "\" back to \"" + to + "\": ";
+                for (int what = 0; what <= 4; what++) {
+                    Check.due(call + "count " + what, cover.count(what), fresh.count(what));
+                }
+                for (int mix = 0; mix < fresh.count(2); mix++) {
+                    Check.due(call + "mix " + mix, cover.mix(mix, 6), fresh.mix(mix, 6));
+                    Check.due(call + "its column", cover.mix(mix, 0), fresh.mix(mix, 0));
+                    Check.due(call + "its level", cover.mix(mix, 4), fresh.mix(mix, 4));
+                }
+                cover.fill();
+                fresh.fill();
+                Check.dueRows(call + "fill", cover, Check.rows(fresh));
+            }
+        }
     }
 
     private static void count() {
