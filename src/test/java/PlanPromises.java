@@ -15,6 +15,8 @@ public final class PlanPromises {
         faultsOfNumbers();
         faultsOfNumber();
         faultsOfAll();
+        bytesBehindTheEnd();
+        longestTexts();
         planInPlaceOfAnother();
         levels();
         mix();
@@ -130,6 +132,12 @@ public final class PlanPromises {
         dueFault("levels x", 7, 1);
         dueFault("levels 2 2 strength 1", 11, 1);
         dueFault("levels 2 2x", 10, 1);
+        dueFault("levelsa 2 2", 0, 1);
+        dueFault("levelsz 2 2", 0, 1);
+        dueFault("levels` 2 2", 6, 1);
+        dueFault("levels{ 2 2", 6, 1);
+        dueFault("levels 2 2/", 10, 1);
+        dueFault("levels 2 2:", 10, 1);
         dueFault("levels 2 2.", 10, 1);
         dueFault("levels 2 2\0", 10, 1);
         dueFault("levels 2 2;", 11, 1);
@@ -187,6 +195,45 @@ public final class PlanPromises {
         dueFault("levels 2 2;never 0.0;never 0.1 ", 31, 4);
         dueFault("levels 2 2;never0.0&1.0;never0.0&1.1;never0.1&1.0;never0.1&1.1", 62, 4);
         dueFault("levels 4 4 4 4 4 4;strength 3", 29, 4);
+    }
+
+    /** What end() took from the tape is not read. */
+    private static void bytesBehindTheEnd() {
+        String[] texts = {"levels 2 222", "levels 2 2;;", "levels 2 2 3", "levels 2 2;never 0.0"};
+        for (String text : texts) {
+            MixCover cover = new MixCover();
+            Check.feed(cover, text);
+            cover.end(10);
+            Check.due("ten bytes of " + text, cover.plan(), 4);
+            Check.feed(cover, text);
+            cover.end(8);
+            Check.due("eight bytes of " + text, cover.plan(), -2 - 65);
+        }
+        MixCover words = new MixCover();
+        Check.feed(words, "levels 2 2");
+        words.end(5);
+        Check.due("five bytes", words.plan(), -3);
+        Check.feed(words, "levels 2 2;never 0.0&1.0");
+        words.end(20);
+        Check.due("twenty bytes", words.plan(), 4);
+        Check.feed(words, "levels 2 2;never 0.0&1.0");
+        words.end(19);
+        Check.due("nineteen bytes", words.plan(), -2 - (8 * 19 + 1));
+    }
+
+    /** The last byte of the tape is a part of each kind of sign. */
+    private static void longestTexts() {
+        String text = "levels 2 2 2;strength 1";
+        dueMixes(text + " ".repeat(200 - text.length()), 6);
+        dueMixes("levels 2 2 2;strength" + "0".repeat(178) + "1", 6);
+        dueMixes("levels 2 " + " ".repeat(190) + "2", 4);
+        dueFault(" ".repeat(200), 200, 1);
+        dueFault(" ".repeat(194) + "levels", 200, 1);
+        dueFault(" ".repeat(195) + "level", 195, 1);
+        dueFault("levels 2 2" + " ".repeat(189) + ";", 200, 1);
+        dueFault("levels 2 2;never 0" + " ".repeat(181) + ".", 200, 1);
+        dueFault("levels 2 2;never 0.0" + " ".repeat(179) + "&", 200, 1);
+        dueFault("levels 2 2;strength 1" + " ".repeat(178) + "2", 199, 1);
     }
 
     private static void planInPlaceOfAnother() {

@@ -215,7 +215,12 @@ public final class RowPromises {
         }
         Check.due("fill till 64", full.fill(), 2);
         Check.due("open still", full.open(), 2);
+        full.keep(0);
+        full.back(0);
         Check.due("fill with 64", full.fill(), 0);
+        Check.due("is no act", full.count(10), 0);
+        Check.due("greed with 64", full.greed(), NONE);
+        Check.due("is no act, too", full.count(10), 0);
     }
 
     private static void field() {
