@@ -300,7 +300,7 @@ public final class MixCover {
 
     public int lawful(int digits) {
         int row = rowBy(digits);
-        return row == NO_ROW ? NONE : now.plan.lawfulIn(now.plan.leftTo(row), 0);
+        return row == NO_ROW ? NONE : Plan.lawfulIn(now.plan, now.plan.leftTo(row), 0);
     }
 
     public int result(int row, int how) {
@@ -608,7 +608,7 @@ public final class MixCover {
         }
 
         boolean allows(int cells) {
-            return lawfulRow(leftTo(cells), 0) != 0;
+            return lawfulRow(this, leftTo(cells), 0) != 0;
         }
 
         /** The levels, a bit each, that a row that is free there can get in a column. */
@@ -627,37 +627,37 @@ public final class MixCover {
             int row = known & ~columnsOf(cells) | cells;
             for (int i = 0; i < neverCount; i++) {
                 if ((nevers[i] & ~row) == 0) {
-                    return lawfulRow(leftTo(cells), 0);
+                    return lawfulRow(this, leftTo(cells), 0);
                 }
             }
             return row;
         }
 
         /** A lawful row of what is left, 0 if there is none. */
-        private int lawfulRow(int left, int depth) {
-            int narrowed = narrow(left);
+        private static int lawfulRow(Plan plan, int left, int depth) {
+            int narrowed = plan.narrow(left);
             if (narrowed == 0 || depth > DEEPEST) {
                 return 0;
             }
-            int cell = openCell(narrowed);
+            int cell = plan.openCell(narrowed);
             if (cell == 0) {
-                return leastRow(narrowed);
+                return plan.leastRow(narrowed);
             }
-            int row = lawfulRow(narrowed & ~cell, depth + 1);
-            return row != 0 ? row : lawfulRow(withOnly(narrowed, cell), depth + 1);
+            int row = lawfulRow(plan, narrowed & ~cell, depth + 1);
+            return row != 0 ? row : lawfulRow(plan, withOnly(narrowed, cell), depth + 1);
         }
 
         /** How many lawful rows what is left holds. */
-        private int lawfulIn(int left, int depth) {
-            int narrowed = narrow(left);
+        private static int lawfulIn(Plan plan, int left, int depth) {
+            int narrowed = plan.narrow(left);
             if (narrowed == 0 || depth > DEEPEST) {
                 return 0;
             }
-            int cell = openCell(narrowed);
+            int cell = plan.openCell(narrowed);
             if (cell == 0) {
-                return rowsIn(narrowed);
+                return plan.rowsIn(narrowed);
             }
-            return lawfulIn(narrowed & ~cell, depth + 1) + lawfulIn(withOnly(narrowed, cell), depth + 1);
+            return lawfulIn(plan, narrowed & ~cell, depth + 1) + lawfulIn(plan, withOnly(narrowed, cell), depth + 1);
         }
 
         /** What is left without the cells that no lawful row of it has; 0 if it breaks a never as it is. */
@@ -694,7 +694,7 @@ public final class MixCover {
             return 0;
         }
 
-        private int withOnly(int left, int cell) {
+        private static int withOnly(int left, int cell) {
             return left & ~columnsOf(cell) | cell;
         }
 
@@ -1006,7 +1006,7 @@ public final class MixCover {
 
         void build(Plan plan) {
             sets.build(plan, plan.strength);
-            int known = plan.lawfulRow(plan.all, 0);
+            int known = Plan.lawfulRow(plan, plan.all, 0);
             possible = 0;
             for (int set = 0; set < sets.size; set++) {
                 for (int mix = sets.first[set]; mix < sets.first[set + 1] && mix < MOST_MIXES; mix++) {
@@ -1229,7 +1229,7 @@ public final class MixCover {
         }
 
         long hopeOf(int row, Plan plan, Mixes mixes) {
-            int known = plan.lawfulRow(plan.leftTo(row), 0);
+            int known = Plan.lawfulRow(plan, plan.leftTo(row), 0);
             if (known == 0) {
                 return 0;
             }
@@ -1335,7 +1335,7 @@ public final class MixCover {
             int changed = samples[i] & ~columnsOf(cell) | cell;
             for (int n = 0; n < nearCount; n++) {
                 if ((near[n] & ~changed) == 0) {
-                    return plan.lawfulRow(plan.leftTo(row | cells[i] | cell), 0);
+                    return Plan.lawfulRow(plan, plan.leftTo(row | cells[i] | cell), 0);
                 }
             }
             return changed;

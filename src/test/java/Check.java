@@ -14,6 +14,14 @@ final class Check {
         }
     }
 
+    static void dueText(String call, String got, String want) {
+        asked++;
+        if (!got.equals(want)) {
+            wrong++;
+            System.out.println(call + " answered \"" + got + "\", due is \"" + want + "\"");
+        }
+    }
+
     static void fails(String told) {
         wrong++;
         System.out.println(told);
@@ -61,9 +69,11 @@ final class Check {
     /** The digits of all rows, a comma between. */
     static String rows(MixCover cover) {
         StringBuilder told = new StringBuilder();
-        for (int row = 0; row < cover.count(5); row++) {
+        int rows = cover.count(5);
+        int columns = cover.count(0);
+        for (int row = 0; row < rows; row++) {
             told.append(row == 0 ? "" : ",");
-            for (int column = 0; column < cover.count(0); column++) {
+            for (int column = 0; column < columns; column++) {
                 int level = cover.cell(row, column);
                 told.append(level == MixCover.NONE ? "9" : String.valueOf(level));
             }

@@ -22,6 +22,7 @@ public final class LanguageTest {
         forbidden(code);
         face(code);
         lengths(text);
+        recursions(code);
         Check.endOf("LanguageTest");
     }
 
@@ -81,5 +82,23 @@ public final class LanguageTest {
                 }
             }
         }
+    }
+
+    /** A method that calls itself is private and static. */
+    private static void recursions(String code) {
+        String method = "(?m)^( {4}| {8})((?:private |public |static |final )*)[\\w\\[\\]<>]+ (\\w+)\\([^;{]*\\{$";
+        Matcher matcher = Pattern.compile(method).matcher(code);
+        int found = 0;
+        while (matcher.find()) {
+            int end = code.indexOf("\n" + matcher.group(1) + "}", matcher.end());
+            String body = code.substring(matcher.end(), Math.max(matcher.end(), end));
+            if (Pattern.compile("(?<![.\\w])" + matcher.group(3) + "\\(").matcher(body).find()) {
+                found++;
+                if (!matcher.group(2).equals("private static ")) {
+                    Check.fails("rule 8: " + matcher.group(3) + " calls itself, but is not private and static");
+                }
+            }
+        }
+        Check.due("methods that call themselves", found, 2);
     }
 }
